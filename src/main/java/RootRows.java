@@ -335,7 +335,7 @@ public final class RootRows {
         }
         sequence.run(one.numbers, other.numbers);
         int left = degree - sequence.lastDegree();
-        int way = sequence.signOfTop(0) * sequence.signOfTop(1);
+        int way = sequence.signs[0] * sequence.signs[1];
         return sequence.jumps() == way * left;
     }
 
@@ -776,6 +776,9 @@ public final class RootRows {
 
     /** Polynomials whose numbers are small enough for a long. */
     private static final class Numbers {
+        /** No two longs need as many turns to their common divisor. */
+        private static final int MOST_TURNS = 100;
+
         static int degreeOf(long[] c) {
             int k = c.length - 1;
             while (k >= 0 && c[k] == 0) {
@@ -803,7 +806,7 @@ public final class RootRows {
         static long commonDivisor(long a, long b) {
             long high = Math.abs(a);
             long low = Math.abs(b);
-            while (low != 0) {
+            for (int turn = 0; low != 0 && turn < MOST_TURNS; turn++) {
                 long left = high % low;
                 high = low;
                 low = left;
@@ -1057,6 +1060,8 @@ public final class RootRows {
 
         final Big[] numbers = new Big[ROWS * WIDTH];
         final int[] degrees = new int[ROWS];
+        /** The signs of the numbers at the highest powers. */
+        final int[] signs = new int[ROWS];
         int members;
 
         private final Big[] rest = new Big[WIDTH];
@@ -1095,7 +1100,9 @@ public final class RootRows {
         }
 
         private void load(int row, long[] c) {
-            degrees[row] = Numbers.degreeOf(c);
+            int degree = Numbers.degreeOf(c);
+            degrees[row] = degree;
+            signs[row] = degree < 0 ? 0 : Long.signum(c[degree]);
             for (int k = 0; k < WIDTH && k < c.length; k++) {
                 numbers[row * WIDTH + k].set(c[k]);
             }
@@ -1110,7 +1117,7 @@ public final class RootRows {
             for (int j = 0; j <= high; j++) {
                 rest[j].copy(numbers[over + j]);
             }
-            int way = numbers[under + low].signum();
+            int way = signs[k - 1];
             ownLead.copy(numbers[under + low]);
             if (way < 0) {
                 ownLead.negate();
@@ -1157,6 +1164,7 @@ public final class RootRows {
                 }
             }
             degrees[k] = degree;
+            signs[k] = numbers[k * WIDTH + degree].signum();
         }
 
         /** What will be in the next rest: lead, and height, which becomes lead^drop / height^(drop - 1). */
@@ -1183,19 +1191,12 @@ public final class RootRows {
             return members > 0 && members <= ROWS ? degrees[members - 1] : NONE;
         }
 
-        int signOfTop(int row) {
-            if (row < 0 || row >= members || row >= ROWS || degrees[row] < 0) {
-                return 0;
-            }
-            return numbers[row * WIDTH + degrees[row]].signum();
-        }
-
         /** How many times two signs that follow one another differ, far below all roots. */
         int changesBelow() {
             int changes = 0;
             for (int k = 1; k < members && k < ROWS; k++) {
                 boolean odd = ((degrees[k] ^ degrees[k - 1]) & 1) != 0;
-                boolean unlike = signOfTop(k) != signOfTop(k - 1);
+                boolean unlike = signs[k] != signs[k - 1];
                 if (odd != unlike) {
                     changes++;
                 }
@@ -1207,7 +1208,7 @@ public final class RootRows {
         int jumps() {
             int above = 0;
             for (int k = 1; k < members && k < ROWS; k++) {
-                if (signOfTop(k) != signOfTop(k - 1)) {
+                if (signs[k] != signs[k - 1]) {
                     above++;
                 }
             }
@@ -1352,7 +1353,7 @@ public final class RootRows {
             tray.members = sequence.members;
             for (int j = 0; j < sequence.members && j < Sequence.ROWS; j++) {
                 tray.degrees[j] = sequence.degrees[j];
-                tray.signs[j] = sequence.signOfTop(j);
+                tray.signs[j] = sequence.signs[j];
             }
         }
     }
@@ -1494,7 +1495,7 @@ public final class RootRows {
         /** Once root j is alone, the sign at the middle tells on which side it lies. */
         private void narrow(int j) {
             int above = unlike - upToLow[j];
-            int signBefore = (above & 1) == 0 ? sequence.signOfTop(0) : -sequence.signOfTop(0);
+            int signBefore = (above & 1) == 0 ? sequence.signs[0] : -sequence.signs[0];
             for (int turn = 0; turn <= WIDEST + FINEST + 1; turn++) {
                 if (high[j] - low[j] <= 1) {
                     return;
