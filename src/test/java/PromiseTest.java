@@ -287,6 +287,8 @@ public final class PromiseTest {
         dueOperator("x^2", 4, 1000, 1000000, 2000, 1);
         dueOperator("100000000", 6, 1000, 100000000);
         dueOperator("100x^2", 6, -1000, 0, 0, 100000000);
+        dueOperator("100000x", 6, -1000, 0, -100000000);
+        dueOperator("-100x^2", 6, 1000, 0, 0, -100000000);
         dueOperator("x^8-16x^7+112x^6-448x^5+1120x^4-1792x^3+1792x^2-1024x+256", 4, 2,
                 0, 0, 0, 0, 0, 0, 0, 0, 1);
         dueOperator("100000000x^2-100000000", 4, 0, -100000000, 0, 100000000);
@@ -328,6 +330,7 @@ public final class PromiseTest {
         dueRefused("x^8+x", 4, 1000);
         dueRefused("x^3", 4, -1000);
         dueRefused("101x^2", 6, 1000);
+        dueRefused("-101x^2", 6, 1000);
         dueRefused("x^8", 6, -1000);
         dueRefused("100000000", 7, 2);
         dueRefused("2481x^8", 9, 0);
@@ -557,6 +560,10 @@ public final class PromiseTest {
         check.due("great numbers, below 1", rows.sign(3, 4095, 12), -1);
         check.due("great numbers, below 0", rows.sign(3, Integer.MIN_VALUE, 12), 1);
         check.due("-1/4096", rows.sign(4, -1, 12), 0);
+        Check.set(rows, 5, "x^8-1");
+        check.due("the last number decides", rows.sign(5, 1, 12), -1);
+        Check.set(rows, 5, "100000000x^8-x");
+        check.due("the last but one decides", rows.sign(5, -1, 12), 1);
         for (int tray : NO_TRAYS) {
             check.due("sign(" + tray + ")", rows.sign(tray, 0, 0), -2);
         }
