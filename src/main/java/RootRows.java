@@ -478,7 +478,7 @@ public final class RootRows {
 
         private int parseTokens() {
             int at = 0;
-            while (at < length && at < ROOM) {
+            for (int turn = 0; turn < ROOM && at < length && at < ROOM; turn++) {
                 int sign = bytes[at];
                 int next = isDigit(sign) ? numberEnd(at) : at + 1;
                 int kind = NO_FAULT;

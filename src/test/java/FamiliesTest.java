@@ -15,6 +15,7 @@ public final class FamiliesTest {
         products(150 * size);
         dense(100 * size);
         sparse(100 * size);
+        steps(60 * size);
         powers(150 * size);
         nearRoots(40 * size);
         moved(80 * size);
@@ -156,6 +157,30 @@ public final class FamiliesTest {
             Poly even = Poly.of(about(size), 0, about(size), 0, about(size), 0, about(size), 0, about(size));
             askAll(even);
         }
+    }
+
+    /** Powers that are two, three or four apart: the proofs have more than one gap. */
+    private static void steps(int n) {
+        for (int turn = 0; turn < n; turn++) {
+            int step = 2 + below(3);
+            int low = below(step);
+            int size = new int[] {5, 1000, 100000000}[below(3)];
+            long[] c = new long[9];
+            for (int k = low; k <= 8; k += step) {
+                c[k] = about(size);
+            }
+            askAll(Poly.of(c));
+            if (low > 0) {
+                c[low - 1] = about(3);
+                askAll(Poly.of(c));
+            }
+        }
+        // gaps where the number at the highest power ahead of the gap does not go into the one behind it
+        askAll(Poly.of(0, 0, -1, 0, 0, -9, 0, 0, 2));
+        askAll(Poly.of(0, 0, -4, 0, 0, -9, 0, 0, 4));
+        askAll(Poly.of(2, 2, 0, 4, 0, -3, -3, 0, 1));
+        askAll(Poly.of(0, 1, 5, 8, 3, -1, -3, 0, 1));
+        askAll(Poly.of(0, 8, -7, -6, 0, -9, -9, 0, 3));
     }
 
     /** Squares and more of polynomials with great numbers, times others. */
