@@ -474,6 +474,7 @@ public final class RootEdgesTest {
                     }
                     if (fits) {
                         dueVeryNear(rows, m, j, near[2] > 0, near[0] + " / " + near[1]);
+                        dueMirrored(rows, m, j, near[2] > 0, near[0] + " / " + near[1]);
                     }
                 }
             }
@@ -493,6 +494,24 @@ public final class RootEdgesTest {
             if (k >= m) {
                 check.due("root " + k + of, rows.root(0, k, 8), 362);
             }
+        }
+        check.due("behind the last" + of, rows.often(0, 2 * m + j), -1);
+    }
+
+    /** The same with x turned round, right behind a question about eight roots that are far from one another. */
+    private static void dueMirrored(RootRows rows, int m, int j, boolean above, String name) {
+        String of = " mirrored, of " + m + " and " + j + " times " + name;
+        put(rows, 3, 1);
+        for (int k = 0; k < 8; k++) {
+            check.due("eight roots", rows.operate(3, 3, 3, k - 4), true);
+        }
+        check.due("the last of eight", rows.often(3, 7), 1);
+        check.due("mirror", rows.operate(0, 0, 6, -1), true);
+        int first = above ? j : m;
+        for (int k = 0; k < 2 * m + j; k++) {
+            int due = k < first ? first : k < m + j ? m + j - first : m;
+            check.due("often " + k + of, rows.often(0, k), due);
+            check.due("root " + k + of, rows.root(0, k, 8), k < m + j ? -363 : 362);
         }
         check.due("behind the last" + of, rows.often(0, 2 * m + j), -1);
     }
